@@ -248,32 +248,43 @@ public final class DesignReader {
         static final int ALL = 157;
         static final int ODD = 158;
 
+        /** No word is longer than this. */
+        static final int LONGEST_WORD = 7;
+
+        // The words from LEVEL to ODD as numbers: to look for a number takes one step a word.
+        private static final long[] SPELLINGS = {
+            0x6c6576656cL, // level
+            0x636f6e7374L, // const
+            0x66756eL, // fun
+            0x6d6f6465L, // mode
+            0x696eL, // in
+            0x726567L, // reg
+            0x77697265L, // wire
+            0x6f7574L, // out
+            0x6e657874L, // next
+            0x6966L, // if
+            0x656c7365L, // else
+            0x63617365L, // case
+            0x64656661756c74L, // default
+            0x6e756dL, // num
+            0x7a657874L, // zext
+            0x73657874L, // sext
+            0x616e79L, // any
+            0x616c6cL, // all
+            0x6f6464L, // odd
+        };
+
         private Token() {
         }
 
-        static String spelling(int word) {
-            switch (word) {
-                case LEVEL: return "level";
-                case CONST: return "const";
-                case FUN: return "fun";
-                case MODE: return "mode";
-                case IN: return "in";
-                case REG: return "reg";
-                case WIRE: return "wire";
-                case OUT: return "out";
-                case NEXT: return "next";
-                case IF: return "if";
-                case ELSE: return "else";
-                case CASE: return "case";
-                case DEFAULT: return "default";
-                case NUM: return "num";
-                case ZEXT: return "zext";
-                case SEXT: return "sext";
-                case ANY: return "any";
-                case ALL: return "all";
-                case ODD: return "odd";
-                default: return "";
+        /** The word that is spelt by some bytes, of which each eight bits are one; NAME when there is none. */
+        static int ofSpelling(long bytes) {
+            for (int i = 0; i < SPELLINGS.length; i++) {
+                if (SPELLINGS[i] == bytes) {
+                    return LEVEL + i;
+                }
             }
+            return NAME;
         }
     }
 
@@ -354,6 +365,7 @@ public final class DesignReader {
     /** The tokens of a text, up to the first byte at which there is none, or to the end. */
     private static final class Tokens {
         private static final int LONGEST_NAME = 30;
+        private static final long GREATEST_NUMBER = 2147483647;
         private static final String LONE_SIGNS = "(){}[],;:?+-*/%&|^~";
 
         private final int[] kinds = new int[MOST_BYTES + 1];
@@ -453,17 +465,14 @@ public final class DesignReader {
         }
 
         private int wordOrName(int at, int size) {
-            for (int word = Token.LEVEL; word <= Token.ODD; word++) {
-                String spelling = Token.spelling(word);
-                boolean alike = spelling.length() == size;
-                for (int i = 0; i < size && alike; i++) {
-                    alike = spelling.charAt(i) == byteAt(at + i);
-                }
-                if (alike) {
-                    return word;
-                }
+            if (size > Token.LONGEST_WORD) {
+                return Token.NAME;
             }
-            return Token.NAME;
+            long bytes = 0;
+            for (int i = 0; i < size; i++) {
+                bytes = bytes << 8 | byteAt(at + i);
+            }
+            return Token.ofSpelling(bytes);
         }
 
         private int scanNumber(int at) {
@@ -471,11 +480,11 @@ public final class DesignReader {
             int end = at;
             while (end < length && isDigit(byteAt(end))) {
                 // A value that is too great already stays so: it must not wrap around.
-                value = Math.min(value * 10 + byteAt(end) - '0', 1L + Integer.MAX_VALUE);
+                value = Math.min(value * 10 + byteAt(end) - '0', GREATEST_NUMBER + 1);
                 end++;
             }
             boolean zeroInFront = byteAt(at) == '0' && end - at > 1;
-            if (zeroInFront || value > Integer.MAX_VALUE || isLetter(byteAt(end))) {
+            if (zeroInFront || value > GREATEST_NUMBER || isLetter(byteAt(end))) {
                 return keep(Token.BAD, at, 0, NONE);
             }
             return keep(Token.NUMBER, at, (int) value, end);
@@ -650,7 +659,6 @@ public final class DesignReader {
             for (int i = 0; i < MOST_BYTES && !at(Token.END); i++) {
                 int keptNodes = tree.count;
                 int keptNames = table.count;
-                rows = 0;
                 if (!item()) {
                     table.keepFirst(keptNames);
                     tree.finish(keptNodes);

@@ -1,7 +1,7 @@
 /** Promise 3: nothing may lie more than 60 deep; the fault is at the first token of what lies 61 deep. */
 public final class Promise03DepthTest {
     public static void main(String[] args) {
-        // each wraps one level round what stands inside: before, behind, how deep a level takes it
+        // what stands before and behind, what opens and closes a level, and how many levels fit
         around("wire w=", "(", "a", ")", ";", 59);
         around("wire w=", "-", "a", "", ";", 59);
         around("wire w=", "~", "a", "", ";", 59);
@@ -30,7 +30,11 @@ public final class Promise03DepthTest {
         around("mode m[1]=", "(", "1", ")", ";", 59);
         around("fun f(a[", "(", "1", ")", "])[1]=a;", 59);
         around("fun f(a[1])[", "(", "1", ")", "]=a;", 59);
+        around("in a[", "(", "1", ")", "]:L;", 59);
+        around("reg r[", "(", "1", ")", "]=0:L;", 59);
         around("reg r[1]=", "(", "1", ")", ":L;", 59);
+        around("reg r[1]=0:", "if(m==0)L else ", "L", "", ";", 59);
+        around("out o:", "if(m==0)", "L", " else L", "=a;", 59);
         around("in a[1]:", "if(m==0)L else ", "L", "", ";", 59);
         around("in a[1]:", "if(m==0)", "L", " else L", ";", 59);
         around("in a[1]:if(m==", "(", "1", ")", ")L else L;", 58);
