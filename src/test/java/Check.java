@@ -40,7 +40,7 @@ final class Check {
     }
 
     /** Feeds a text, with blanks behind it up to twenty bytes; how many bytes the reader has. */
-    static int feed(DesignReader reader, String text) {
+    static int feed(Subject reader, String text) {
         int count = 0;
         for (int from = 0; from < text.length(); from += 20) {
             count = reader.feed(four(text, from), four(text, from + 4), four(text, from + 8),
@@ -58,20 +58,20 @@ final class Check {
     }
 
     /** Feeds a text and reads it into a tree: what read answers. */
-    static int read(DesignReader reader, int tree, String text) {
+    static int read(Subject reader, int tree, String text) {
         feed(reader, text);
         return reader.read(tree, text.length());
     }
 
     /** A new reader with a good text in tree 0. */
-    static DesignReader reader(String text) {
-        DesignReader reader = new DesignReader();
+    static Subject reader(String text) {
+        Subject reader = new Subject();
         due("read of " + text, read(reader, 0, text), DesignReader.NONE);
         return reader;
     }
 
     /** A node with all in it, as kind, =value unless 0, @place, and its parts in brackets. */
-    static String tree(DesignReader reader, int tree, int k) {
+    static String tree(Subject reader, int tree, int k) {
         StringBuilder out = new StringBuilder();
         out.append(reader.node(tree, k, 0));
         if (reader.node(tree, k, 2) != 0) {
@@ -86,7 +86,7 @@ final class Check {
     }
 
     /** What a node is written as, byte by byte; "NONE" when write answers that. */
-    static String write(DesignReader reader, int tree, int k) {
+    static String write(Subject reader, int tree, int k) {
         int count = reader.write(tree, k);
         if (count == DesignReader.NONE) {
             return "NONE";
@@ -96,7 +96,7 @@ final class Check {
         return text;
     }
 
-    static String written(DesignReader reader) {
+    static String written(Subject reader) {
         StringBuilder out = new StringBuilder();
         for (int i = 0; reader.written(i) != DesignReader.NONE; i++) {
             out.append((char) reader.written(i));
@@ -104,7 +104,7 @@ final class Check {
         return out.toString();
     }
 
-    static String spelt(DesignReader reader, int name) {
+    static String spelt(Subject reader, int name) {
         StringBuilder out = new StringBuilder();
         for (int i = 0; reader.spelt(name, i) != DesignReader.NONE; i++) {
             out.append((char) reader.spelt(name, i));
@@ -112,8 +112,18 @@ final class Check {
         return out.toString();
     }
 
+    /** All that can be asked of a reader without changing it: both trees, the names, what was written last. */
+    static String state(Subject reader) {
+        StringBuilder out = new StringBuilder();
+        for (int tree = 0; tree < 2; tree++) {
+            out.append(reader.nodes(tree)).append(' ').append(tree(reader, tree, 0)).append('\n');
+        }
+        out.append(reader.names()).append(' ').append(allNames(reader)).append('\n');
+        return out.append(written(reader)).append('\n').append(reader.same()).toString();
+    }
+
     /** All names in their order, a blank behind each. */
-    static String allNames(DesignReader reader) {
+    static String allNames(Subject reader) {
         StringBuilder out = new StringBuilder();
         for (int name = 0; name < reader.names(); name++) {
             out.append(spelt(reader, name)).append(' ');

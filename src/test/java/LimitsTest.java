@@ -19,6 +19,7 @@ public final class LimitsTest {
         deepAndWide();
         openCalls();
         longFaults();
+        namesWithoutEnd();
         Check.end();
     }
 
@@ -30,7 +31,7 @@ public final class LimitsTest {
 
     private static void roundTrip(String text) {
         String name = text.substring(0, 30);
-        DesignReader reader = Check.reader(text);
+        Subject reader = Check.reader(text);
         int nodes = reader.nodes(0);
         int count = 0;
         for (int k = 0; k < nodes; k++) {
@@ -62,19 +63,34 @@ public final class LimitsTest {
         roundTrip("next{" + "case(a){0:{".repeat(59) + "}}".repeat(59) + "}");
         roundTrip("next{" + "case(a){0:{".repeat(20) + "a<=" + "f[1](".repeat(38) + "b" + ")".repeat(38) + ";"
             + "}}".repeat(20) + "}");
-        Check.due("too deep", Check.read(new DesignReader(), 0, "wire w=" + "f(".repeat(3900)), 7 + 120);
+        Check.due("too deep", Check.read(new Subject(), 0, "wire w=" + "f(".repeat(3900)), 7 + 120);
     }
 
     private static void longFaults() {
         String digits = "const c=" + "9".repeat(7991) + ";";
-        Check.due("8000 digits", Check.read(new DesignReader(), 0, digits), 8);
+        Check.due("8000 digits", Check.read(new Subject(), 0, digits), 8);
         String letters = "level " + "x".repeat(7993) + ";";
-        Check.due("8000 letters", Check.read(new DesignReader(), 0, letters), 6);
+        Check.due("8000 letters", Check.read(new Subject(), 0, letters), 6);
         String items = filled("", "level A;", "");
-        DesignReader reader = new DesignReader();
+        Subject reader = new Subject();
         Check.due("a fault at the end", Check.read(reader, 0, items.substring(0, 7999)), 7999);
         Check.due("the items before it", reader.nodes(0), 1 + 2 * 999);
+        reader = new Subject();
         Check.due("8000 signs", Check.read(reader, 0, "wire w=" + "a+".repeat(3996) + ";"), 7999);
         Check.due("no items before it", reader.nodes(0), 1);
+    }
+
+    /** More names than 512 calls can bring: what is answered is free by then, but nothing may be thrown. */
+    private static void namesWithoutEnd() {
+        Subject reader = Subject.withoutEnd();
+        for (int i = 0; i < 7000; i += 10) {
+            StringBuilder text = new StringBuilder("level A>B");
+            for (int k = 0; k < 10; k++) {
+                text.append(",n").append(i + k);
+            }
+            Check.read(reader, i / 10 % 2, text.append(";wire x=y").append(i).toString());
+        }
+        reader.write(0, 0);
+        Check.due("names are asked for", reader.spelt(reader.names(), 0), -1);
     }
 }

@@ -3,7 +3,7 @@ public final class Promise01NewObjectTest {
     public static void main(String[] args) {
         Check.due("NONE", DesignReader.NONE, -1);
         for (int tree = 0; tree < 2; tree++) {
-            DesignReader fresh = new DesignReader();
+            Subject fresh = new Subject();
             Check.due("nodes", fresh.nodes(tree), 1);
             Check.due("kind", fresh.node(tree, 0, 0), 0);
             Check.due("place", fresh.node(tree, 0, 1), -1);
@@ -15,7 +15,7 @@ public final class Promise01NewObjectTest {
             Check.due("node 1", fresh.node(tree, 1, 0), -2);
             Check.due("write", fresh.write(tree, 0), 0);
         }
-        DesignReader fresh = new DesignReader();
+        Subject fresh = new Subject();
         Check.due("names", fresh.names(), 0);
         Check.due("spelt", fresh.spelt(0, 0), -1);
         Check.due("written", fresh.written(0), -1);
@@ -30,9 +30,9 @@ public final class Promise01NewObjectTest {
     }
 
     private static void objectsAreApart() {
-        DesignReader one = Check.reader("wire a=b;");
+        Subject one = Check.reader("wire a=b;");
         one.write(0, 0);
-        DesignReader other = new DesignReader();
+        Subject other = new Subject();
         Check.due("nodes of another", other.nodes(0), 1);
         Check.due("names of another", other.names(), 0);
         Check.due("written of another", other.written(0), -1);

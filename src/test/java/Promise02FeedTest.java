@@ -8,7 +8,7 @@ public final class Promise02FeedTest {
     }
 
     private static void orderOfBytes() {
-        DesignReader reader = new DesignReader();
+        Subject reader = new Subject();
         // "leve" "l ab" "cdef" "ghij" "k;\n\r" : of each int the highest byte first
         Check.due("feed", reader.feed(0x6c657665, 0x6c206162, 0x63646566, 0x6768696a, 0x6b3b0a0d), 20);
         Check.due("read", reader.read(0, -1), -1);
@@ -22,7 +22,7 @@ public final class Promise02FeedTest {
     }
 
     private static void mostBytes() {
-        DesignReader reader = new DesignReader();
+        Subject reader = new Subject();
         for (int i = 1; i <= 400; i++) {
             Check.due("feed " + i, reader.feed(0x20202020, 0x20202020, 0x20202020, 0x20202020, 0x20202020), 20 * i);
         }
@@ -37,7 +37,7 @@ public final class Promise02FeedTest {
     private static void mostBytesBehindAgain() {
         for (int extra = 0; extra < 3; extra++) {
             // written with 7979, 7980, 7981 bytes: one more feed only up to 7980
-            DesignReader reader = new DesignReader();
+            Subject reader = new Subject();
             StringBuilder text = new StringBuilder("level A>B");
             while (text.length() < 7976 + extra) {
                 text.append(",B");

@@ -61,18 +61,20 @@ public final class Promise03DepthTest {
         Check.end();
     }
 
-    /** As many levels as fit are read; with one more, the fault is at the first token 61 deep. */
+    /** One less than fit, and as many as fit, are read; with one more, the fault is at the first token 61 deep. */
     private static void around(String before, String open, String inside, String close, String behind, int most) {
         String name = before + open + ".." + inside + close + behind;
-        DesignReader reader = new DesignReader();
-        Check.due(name, Check.read(reader, 0, before + open.repeat(most) + inside + close.repeat(most) + behind), -1);
+        Subject reader = new Subject();
+        Check.due("59 deep: " + name,
+            Check.read(reader, 0, before + open.repeat(most - 1) + inside + close.repeat(most - 1) + behind), -1);
+        Check.due("60 deep: " + name, Check.read(reader, 0, before + open.repeat(most) + inside + close.repeat(most) + behind), -1);
         Check.due("nodes of " + name, reader.nodes(0) > 1, true);
         reader.write(0, 0);
         reader.again();
         Check.due("again " + name, reader.read(1, -1), -1);
         Check.due("same " + name, reader.same(), true);
         String start = before + open.repeat(most + 1);
-        Check.due("deeper: " + name, Check.read(reader, 0, start + inside + close.repeat(most + 1) + behind),
+        Check.due("61 deep: " + name, Check.read(reader, 0, start + inside + close.repeat(most + 1) + behind),
             placeOfDepth(before, open, inside, most, start));
         Check.due("no item is left of " + name, reader.nodes(0), 1);
     }
@@ -100,22 +102,22 @@ public final class Promise03DepthTest {
 
     private static void whatIsWrongAnyway() {
         String sixty = "wire w=" + "(".repeat(60);
-        Check.due("the end", Check.read(new DesignReader(), 0, sixty), 67);
-        Check.due("blanks and the end", Check.read(new DesignReader(), 0, sixty + "  "), 69);
-        Check.due("no token", Check.read(new DesignReader(), 0, sixty + " @"), 68);
-        Check.due("a token that does not go on", Check.read(new DesignReader(), 0, sixty + " )"), 68);
-        Check.due("one that does", Check.read(new DesignReader(), 0, sixty + " a"), 68);
-        Check.due("an earlier fault", Check.read(new DesignReader(), 0, "wire w=(1" + "(".repeat(70)), 8);
-        Check.due("a thousand", Check.read(new DesignReader(), 0, "wire w=" + "(".repeat(7000)), 67);
-        Check.due("a thousand signs", Check.read(new DesignReader(), 0, "wire w=" + "-".repeat(7000)), 67);
-        Check.due("a thousand sums", Check.read(new DesignReader(), 0, "const c=" + "(".repeat(7000)), 68);
+        Check.due("the end", Check.read(new Subject(), 0, sixty), 67);
+        Check.due("blanks and the end", Check.read(new Subject(), 0, sixty + "  "), 69);
+        Check.due("no token", Check.read(new Subject(), 0, sixty + " @"), 68);
+        Check.due("a token that does not go on", Check.read(new Subject(), 0, sixty + " )"), 68);
+        Check.due("one that does", Check.read(new Subject(), 0, sixty + " a"), 68);
+        Check.due("an earlier fault", Check.read(new Subject(), 0, "wire w=(1" + "(".repeat(70)), 8);
+        Check.due("a thousand", Check.read(new Subject(), 0, "wire w=" + "(".repeat(7000)), 67);
+        Check.due("a thousand signs", Check.read(new Subject(), 0, "wire w=" + "-".repeat(7000)), 67);
+        Check.due("a thousand sums", Check.read(new Subject(), 0, "const c=" + "(".repeat(7000)), 68);
     }
 
     private static void mixed() {
         // BLOCKs, then an EXPR, UNARYs behind a sign, brackets and a SUM: all count alike
         String before = "next{" + "if(a){".repeat(19) + "a<=" + "-".repeat(20) + "(".repeat(18) + "b[";
         String behind = "]" + ")".repeat(18) + ";" + "}".repeat(19) + "}";
-        Check.due("60 deep", Check.read(new DesignReader(), 0, before + "1" + behind), -1);
-        Check.due("61 deep", Check.read(new DesignReader(), 0, before + "(1)" + behind), before.length() + 1);
+        Check.due("60 deep", Check.read(new Subject(), 0, before + "1" + behind), -1);
+        Check.due("61 deep", Check.read(new Subject(), 0, before + "(1)" + behind), before.length() + 1);
     }
 }

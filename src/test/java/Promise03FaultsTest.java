@@ -15,7 +15,7 @@ public final class Promise03FaultsTest {
     private static void fault(String marked) {
         int place = marked.indexOf('`');
         String text = marked.replace("`", "");
-        Check.due("read of " + marked, Check.read(new DesignReader(), 0, text), place);
+        Check.due("read of " + marked, Check.read(new Subject(), 0, text), place);
     }
 
     private static void items() {
@@ -102,7 +102,7 @@ public final class Promise03FaultsTest {
     }
 
     private static void treesWithFaults() {
-        DesignReader reader = new DesignReader();
+        Subject reader = new Subject();
         Check.due("read", Check.read(reader, 0, "level A;wire a=b+;level C;"), 17);
         Check.due("the items before", Check.tree(reader, 0, 0), "0@-1(1@0(21@6))");
         Check.due("read", Check.read(reader, 0, "level A;level B;}"), 16);

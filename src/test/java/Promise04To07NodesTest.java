@@ -3,7 +3,7 @@ public final class Promise04To07NodesTest {
     private static final int[] NO_TREES = {-1, 2, 3, 100, Integer.MIN_VALUE, Integer.MAX_VALUE};
 
     public static void main(String[] args) {
-        DesignReader reader = Check.reader("level A>B,C;wire w=a+b*c[1];next{if(w){a<=b;}}");
+        Subject reader = Check.reader("level A>B,C;wire w=a+b*c[1];next{if(w){a<=b;}}");
         Check.due("read", Check.read(reader, 1, "level A;"), -1);
         // 0 1(2 3 4) 5(6 7(8 9(10(11 12(13(14 15)))))) 16(17(18(19 20(21(22 23)))))
         int[] wholes = {-1, 0, 1, 1, 1, 0, 5, 5, 7, 7, 9, 10, 10, 12, 13, 13, 0, 16, 17, 18, 18, 20, 21, 21};
@@ -26,7 +26,7 @@ public final class Promise04To07NodesTest {
         Check.end();
     }
 
-    private static void partsOf(DesignReader reader, int k, int[] wholes, int count) {
+    private static void partsOf(Subject reader, int k, int[] wholes, int count) {
         int i = 0;
         for (int other = 0; other < wholes.length; other++) {
             if (wholes[other] == k) {
@@ -41,7 +41,7 @@ public final class Promise04To07NodesTest {
         }
     }
 
-    private static void noSuch(DesignReader reader) {
+    private static void noSuch(Subject reader) {
         for (int tree : NO_TREES) {
             Check.due("nodes(" + tree + ")", reader.nodes(tree), 0);
             Check.due("node of no tree", reader.node(tree, 0, 0), -2);

@@ -10,7 +10,7 @@ public final class Promise08To09NamesTest {
     }
 
     private static void order() {
-        DesignReader reader = Check.reader("fun f[P](a[Q],b[P])[R]=g[S](h,a)?i[T]:{j,k[U:V]};");
+        Subject reader = Check.reader("fun f[P](a[Q],b[P])[R]=g[S](h,a)?i[T]:{j,k[U:V]};");
         Check.due("names", Check.allNames(reader), "f P a Q b R g S h i T j k U V ");
         reader = Check.reader("in a[b]:if(c==d)E|F else G;out o:L=m;next{p<=q;case(r){s:{t<=u;}default:{}}}");
         Check.due("names", Check.allNames(reader), "a b c d E F G o L m p q r s t u ");
@@ -20,12 +20,12 @@ public final class Promise08To09NamesTest {
     }
 
     private static void faults() {
-        DesignReader first = new DesignReader();
+        Subject first = new Subject();
         Check.due("read", Check.read(first, 0, "wire a=b"), 8);
         Check.due("no name at all", first.names(), 0);
         Check.due("read", Check.read(first, 0, "wire b=a;"), -1);
         Check.due("names", Check.allNames(first), "b a ");
-        DesignReader reader = new DesignReader();
+        Subject reader = new Subject();
         Check.due("read", Check.read(reader, 0, "level A;wire b=A+c d;level E;"), 19);
         Check.due("the item with the fault does not count", Check.allNames(reader), "A ");
         Check.due("read", Check.read(reader, 0, "wire b"), 6);
@@ -44,7 +44,7 @@ public final class Promise08To09NamesTest {
     }
 
     private static void otherTextsAndTrees() {
-        DesignReader reader = Check.reader("wire a=b;");
+        Subject reader = Check.reader("wire a=b;");
         Check.due("read", Check.read(reader, 1, "wire b=c;"), -1);
         Check.due("names", Check.allNames(reader), "a b c ");
         Check.due("b in tree 1", reader.node(1, 2, 2), 1);
@@ -53,7 +53,7 @@ public final class Promise08To09NamesTest {
     }
 
     private static void noSuch() {
-        DesignReader reader = Check.reader("level abc;level d;");
+        Subject reader = Check.reader("level abc;level d;");
         Check.due("spelt(0, 2)", reader.spelt(0, 2), 'c');
         Check.due("spelt(0, 3)", reader.spelt(0, 3), -1);
         Check.due("spelt(1, 0)", reader.spelt(1, 0), 'd');
@@ -74,7 +74,7 @@ public final class Promise08To09NamesTest {
         String later = "0123456789" + first;
         StringBuilder all = new StringBuilder();
         StringBuilder want = new StringBuilder();
-        DesignReader reader = new DesignReader();
+        Subject reader = new Subject();
         int made = 0;
         for (int round = 0; round < 2; round++) {
             all.setLength(0);

@@ -13,7 +13,7 @@ public final class Promise10To12WriteTest {
     }
 
     private static void design(String text, String want) {
-        DesignReader reader = Check.reader(text);
+        Subject reader = Check.reader(text);
         Check.due("written of " + text, Check.write(reader, 0, 0), want);
         Check.due("again", reader.again(), want.length());
         Check.due("read again of " + want, reader.read(1, -1), -1);
@@ -42,7 +42,7 @@ public final class Promise10To12WriteTest {
     }
 
     private static void everyNode() {
-        DesignReader reader = Check.reader("fun f(a[(1)])[2]=(a|b)&(c?d:e)+g(~(h-i));");
+        Subject reader = Check.reader("fun f(a[(1)])[2]=(a|b)&(c?d:e)+g(~(h-i));");
         String[] wants = {"fun f(a[1])[2]=(a|b)&(c?d:e)+g(~(h-i));", "fun f(a[1])[2]=(a|b)&(c?d:e)+g(~(h-i));", "f", "", "a[1]", "a", "1", "2",
             "(a|b)&(c?d:e)+g(~(h-i))", "a|b", "a", "|b", "b", "&(c?d:e)+g(~(h-i))", "(c?d:e)+g(~(h-i))", "c?d:e", "c", "d", "e",
             "+g(~(h-i))", "g(~(h-i))", "g", "", "~(h-i)", "h-i", "h", "-i", "i"};
@@ -62,7 +62,7 @@ public final class Promise10To12WriteTest {
         nodes(reader, wants);
     }
 
-    private static void nodes(DesignReader reader, String[] wants) {
+    private static void nodes(Subject reader, String[] wants) {
         Check.due("nodes of " + wants[0], reader.nodes(0), wants.length);
         for (int k = 0; k < wants.length; k++) {
             Check.due("node " + k + " of " + wants[0], Check.write(reader, 0, k), wants[k]);
@@ -128,7 +128,7 @@ public final class Promise10To12WriteTest {
     }
 
     private static void noSuch() {
-        DesignReader reader = Check.reader("wire a=b;");
+        Subject reader = Check.reader("wire a=b;");
         Check.due("write", reader.write(0, 3), 1);
         int[] noNodes = {-1, 4, 5, 12010, 20000, Integer.MIN_VALUE, Integer.MAX_VALUE};
         for (int k : noNodes) {
@@ -144,7 +144,7 @@ public final class Promise10To12WriteTest {
     }
 
     private static void written() {
-        DesignReader reader = Check.reader("wire a=b;level Q;");
+        Subject reader = Check.reader("wire a=b;level Q;");
         Check.due("nothing is written by read", reader.written(0), -1);
         reader.write(0, 0);
         Check.due("written(16)", reader.written(16), ';');
@@ -163,7 +163,7 @@ public final class Promise10To12WriteTest {
     }
 
     private static void again() {
-        DesignReader reader = new DesignReader();
+        Subject reader = new Subject();
         Check.feed(reader, "level A;");
         Check.due("nothing was written", reader.again(), 0);
         Check.due("all bytes are gone", reader.read(0, 1), -2);

@@ -27,18 +27,18 @@ public final class Promise13SameTest {
     }
 
     private static void alike(String one, String other, boolean want) {
-        DesignReader reader = new DesignReader();
+        Subject reader = new Subject();
         Check.read(reader, 0, one);
         Check.read(reader, 1, other);
         Check.due("same of " + one + " and " + other, reader.same(), want);
-        reader = new DesignReader();
+        reader = new Subject();
         Check.read(reader, 1, one);
         Check.read(reader, 0, other);
         Check.due("same of " + other + " and " + one, reader.same(), want);
     }
 
     private static void changes() {
-        DesignReader reader = Check.reader("wire a=b;");
+        Subject reader = Check.reader("wire a=b;");
         Check.due("with the empty one", reader.same(), false);
         Check.read(reader, 1, "wire a=b+c;wire d=e;");
         Check.due("with another one", reader.same(), false);

@@ -7,19 +7,30 @@ public final class RandomCallsTest {
 
     public static void main(String[] args) {
         Dice dice = new Dice(7);
-        for (int run = 0; run < 400; run++) {
-            DesignReader reader = new DesignReader();
-            for (int call = 0; call < 600; call++) {
-                try {
-                    call(reader, dice);
-                } catch (RuntimeException e) {
-                    Check.fail("run " + run + ", call " + call + " threw " + e);
-                }
+        for (int run = 0; run < 600; run++) {
+            Subject reader = new Subject();
+            for (int call = 0; call < 400 && reader.changes() < 300; call++) {
+                call(reader, dice, "run " + run + ", call " + call);
             }
             sound(reader, 0);
             sound(reader, 1);
         }
+        // names and bytes without end: what is answered is free by then, but nothing may be thrown
+        for (int run = 0; run < 10; run++) {
+            Subject reader = Subject.withoutEnd();
+            for (int call = 0; call < 12000; call++) {
+                call(reader, dice, "endless run " + run + ", call " + call);
+            }
+        }
         Check.end();
+    }
+
+    private static void call(Subject reader, Dice dice, String which) {
+        try {
+            call(reader, dice);
+        } catch (RuntimeException e) {
+            Check.fail(which + " threw " + e);
+        }
     }
 
     private static int wild(Dice dice, int usual) {
@@ -32,7 +43,7 @@ public final class RandomCallsTest {
         }
     }
 
-    private static void call(DesignReader reader, Dice dice) {
+    private static void call(Subject reader, Dice dice) {
         int tree = dice.oneIn(10) ? wild(dice, 3) : dice.below(2);
         int k = wild(dice, reader.nodes(dice.below(2)) + 2);
         switch (dice.below(12)) {
@@ -54,13 +65,13 @@ public final class RandomCallsTest {
     private static String soup(Dice dice) {
         StringBuilder out = new StringBuilder();
         for (int more = dice.below(60); more > 0; more--) {
-            out.append(dice.pick(TOKENS));
+            out.append(dice.oneIn(9) ? "n" + dice.below(100000) : dice.pick(TOKENS));
         }
         return dice.oneIn(3) ? new RandomDesign(dice).text : out.toString();
     }
 
     /** Each node lies in its whole as that part which it is, and sizes add up. */
-    private static void sound(DesignReader reader, int tree) {
+    private static void sound(Subject reader, int tree) {
         for (int k = 0; k < reader.nodes(tree); k++) {
             int size = 1;
             for (int i = 0; i < reader.node(tree, k, 4); i++) {

@@ -17,7 +17,7 @@ public final class RandomDesignsTest {
     }
 
     private static void check(RandomDesign design) {
-        DesignReader reader = Check.reader(design.text);
+        Subject reader = Check.reader(design.text);
         Check.due("nodes of " + design.text, reader.nodes(0), design.kinds.size());
         for (int k = 0; k < reader.nodes(0) && k < design.kinds.size(); k++) {
             Check.due("kind " + k + " of " + design.text, reader.node(0, k, 0), design.kinds.get(k));
@@ -40,7 +40,7 @@ public final class RandomDesignsTest {
         if (bad.length() > 8000) {
             return;
         }
-        DesignReader reader = new DesignReader();
+        Subject reader = new Subject();
         int fault = Check.read(reader, 0, bad);
         Check.due("fault of " + bad, fault >= -1 && fault <= bad.length(), true);
         if (fault >= 0) {
