@@ -67,6 +67,9 @@ public final class LimitsTest {
     }
 
     private static void longFaults() {
+        Check.due("8000 tokens", Check.read(new Subject(), 0, ";".repeat(8000)), 0);
+        Check.due("8000 tokens behind each other", Check.read(new Subject(), 0, "(".repeat(8000)), 0);
+
         String digits = "const c=" + "9".repeat(7991) + ";";
         Check.due("8000 digits", Check.read(new Subject(), 0, digits), 8);
         String letters = "level " + "x".repeat(7993) + ";";
