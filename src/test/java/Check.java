@@ -49,7 +49,8 @@ final class Check {
         return count;
     }
 
-    private static int four(String text, int from) {
+    /** Four bytes of a text, with blanks behind it. */
+    static int four(String text, int from) {
         int bytes = 0;
         for (int i = from; i < from + 4; i++) {
             bytes = bytes << 8 | (i < text.length() ? text.charAt(i) & 255 : ' ');
