@@ -24,12 +24,10 @@ public final class ModelCallsTest {
 
     private void due(String call, int got, int want) {
         calls++;
-        if (run.length() < 20000) {
-            run.append(call).append(" -> ").append(got).append('\n');
-        }
+        Check.due("no more than 512 calls", calls <= MOST_CALLS, true);
+        run.append(call).append(" -> ").append(got).append('\n');
         if (got != want) {
             Check.fail(run + "due is " + want);
-            calls = MOST_CALLS;
         }
     }
 
@@ -76,7 +74,7 @@ public final class ModelCallsTest {
         due("again()", reader.again(), fed);
         if (dice.oneIn(3)) {
             text();
-        } else if (dice.oneIn(2)) {
+        } else if (dice.oneIn(2) && calls < MOST_CALLS) {
             readOf(dice.below(2), dice.oneIn(3) ? dice.below(fed + 1) : -1);
         }
     }
